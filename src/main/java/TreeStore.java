@@ -253,10 +253,6 @@ public final class TreeStore {
         return c == '\n' || (c >= 32 && c <= 126);
     }
 
-    private static boolean isBlank(int c) {
-        return c == '\n' || c == ' ';
-    }
-
     private static boolean isLetter(int c) {
         return (c >= 'a' && c <= 'z') || (c >= 'A' && c <= 'Z');
     }
@@ -288,7 +284,7 @@ public final class TreeStore {
             return length + more <= chars.length;
         }
 
-        /** Character k, or 0, which is no character, beyond the ends. */
+        /** 0, which is no character, beyond the ends, so that readers need not look for them. */
         int at(int k) {
             return k >= 0 && k < length ? chars[k] : 0;
         }
@@ -333,8 +329,11 @@ public final class TreeStore {
         }
 
         boolean spells(int first, String word) {
+            if (first < 0 || first + word.length() > length) {
+                return false;
+            }
             for (int i = 0; i < word.length(); i++) {
-                if (at(first + i) != word.charAt(i)) {
+                if (chars[first + i] != word.charAt(i)) {
                     return false;
                 }
             }
@@ -345,7 +344,7 @@ public final class TreeStore {
             return n == word.length() && spells(first, word);
         }
 
-        /** How long the name is that begins at first: 0 when none does. */
+        /** 0 when no name begins at first. */
         int nameLength(int first) {
             if (!isLetter(at(first))) {
                 return 0;
@@ -363,13 +362,12 @@ public final class TreeStore {
 
         int behindBlanks(int first, int end) {
             int behind = first;
-            while (behind < end && isBlank(at(behind))) {
+            while (behind < end && (at(behind) == ' ' || at(behind) == '\n')) {
                 behind++;
             }
             return behind;
         }
 
-        /** What the characters from first to before end are as a number. */
         long asNumber(int first, int end) {
             int i = behindBlanks(first, end);
             boolean minus = i < end && at(i) == '-';
@@ -464,7 +462,6 @@ public final class TreeStore {
             measure();
         }
 
-        /** Makes one of node p and the next one if they are texts side by side. */
         boolean joinTexts(int p) {
             int next = p + 1;
             if (p < 0 || next >= count || kinds[p] != TEXT || kinds[next] != TEXT || levels[p] != levels[next]) {
@@ -577,7 +574,6 @@ public final class TreeStore {
             expectEnd();
         }
 
-        /** One element, comment or text, at this level, with room for so many nodes. */
         void readPiece(int atLevel, int nodesLeft) {
             begin(nodesLeft);
             readPart(atLevel);
@@ -733,41 +729,34 @@ public final class TreeStore {
 
         private int readCharacter() {
             int c = buffer.at(at);
-            if (c == '&') {
-                return readEntity();
-            }
             if (c == '<' || c == 0) {
                 throw new IllegalArgumentException("no character");
             }
-            at++;
-            return c;
-        }
-
-        private int readEntity() {
-            if (take("&lt;")) {
+            if (c != '&') {
+                at++;
+                return c;
+            }
+            if (buffer.spells(at, "&lt;")) {
+                at += 4;
                 return '<';
             }
-            if (take("&gt;")) {
+            if (buffer.spells(at, "&gt;")) {
+                at += 4;
                 return '>';
             }
-            if (take("&amp;")) {
+            if (buffer.spells(at, "&amp;")) {
+                at += 5;
                 return '&';
             }
-            if (take("&quot;")) {
+            if (buffer.spells(at, "&quot;")) {
+                at += 6;
                 return '"';
             }
-            if (take("&apos;")) {
+            if (buffer.spells(at, "&apos;")) {
+                at += 6;
                 return '\'';
             }
             throw new IllegalArgumentException("an & that stands for nothing");
-        }
-
-        private boolean take(String word) {
-            if (!buffer.spells(at, word)) {
-                return false;
-            }
-            at += word.length();
-            return true;
         }
 
         private int readName() {
@@ -1298,7 +1287,6 @@ public final class TreeStore {
         }
     }
 
-    /** Finds the nodes that a path gives. */
     private static final class PathWalker {
         private final Row buffer;
         private final Tree tree;
