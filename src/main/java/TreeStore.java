@@ -160,7 +160,7 @@ public final class TreeStore {
             throw new IndexOutOfBoundsException("no such node");
         }
         Part path = pathReader.readPath();
-        found = walker.walk(path, p);
+        found = walker.nodesOf(path, p);
         buffer.clear();
         return Integer.bitCount(found);
     }
@@ -317,6 +317,7 @@ public final class TreeStore {
             if (n != otherN) {
                 return false;
             }
+            // Elements in one another often have the same stretch of texts, and it may be long.
             if (other == this && otherFirst == first) {
                 return true;
             }
@@ -1296,7 +1297,11 @@ public final class TreeStore {
             this.tree = tree;
         }
 
-        int walk(Part path, int node) {
+        int nodesOf(Part path, int from) {
+            return walk(path, from);
+        }
+
+        private int walk(Part path, int node) {
             if (path == null) {
                 return 0;
             }
