@@ -36,7 +36,7 @@ public final class LimitsTest {
         Run.due("sums and steps", run.query("*[" + "//.+".repeat(28) + "1!=1]", 0), " 1");
     }
 
-    /** 512 calls, half of them to type: each joins a text, a comment, an attribute and a name to the tree. */
+    /** As many characters as 512 calls can bring into one text. */
     private static void fullOfCharacters() {
         TreeStore store = new TreeStore();
         store.type(Run.eight("<a/>"));

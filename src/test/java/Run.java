@@ -139,7 +139,7 @@ final class Run {
         return all.toString();
     }
 
-    /** What the buffer has, seen through how much more goes in and what a load of it says is not asked here. */
+    /** The face does not tell it, so the buffer is filled to see how much was free. */
     int bufferLength() {
         int free = 0;
         while (store.type('x')) {
