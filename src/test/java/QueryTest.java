@@ -194,6 +194,11 @@ public final class QueryTest {
         gives("descendant-or-self::node()[1]", 5, " 5");
         gives("ancestor::*[position()<3][position()=2]", 9, " 5");
         gives("//node()[1]", 0, " 1 5 7 9");
+        gives("ancestor::*[last()][position()]", 9, " 2");
+        gives("ancestor::*[last()][2]", 9, "");
+        gives("preceding::node()[last()][1]", 13, " 1");
+        gives("preceding::node()[position()<last()][last()]", 13, " 2");
+        gives("preceding-sibling::node()[last()-1]['x']", 12, " 10");
         gives("descendant::node()[1]", 0, " 1");
         gives("//c/ancestor::node()[2]", 0, " 2");
         gives("a/b/preceding-sibling::*[1]", 0, " 5");
