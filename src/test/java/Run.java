@@ -3,11 +3,17 @@ final class Run {
     final TreeStore store = new TreeStore();
 
     private static int wrong = 0;
+    private static String sentence = "";
+
+    /** The sentence of the document that the answers behind this are due to. */
+    static void says(String words) {
+        sentence = " [" + words + "]";
+    }
 
     static void due(String call, Object got, Object want) {
         if (!String.valueOf(want).equals(String.valueOf(got))) {
             wrong++;
-            System.out.println(call + " answered " + got + ", due is " + want);
+            System.out.println(call + " answered " + got + ", due is " + want + sentence);
         }
     }
 
@@ -58,6 +64,10 @@ final class Run {
 
     String insert(String text, int p, int where) {
         put(text);
+        return insert(p, where);
+    }
+
+    String insert(int p, int where) {
         try {
             return String.valueOf(store.insert(p, where));
         } catch (RuntimeException e) {
@@ -75,6 +85,10 @@ final class Run {
 
     String rename(String text, int p) {
         put(text);
+        return rename(p);
+    }
+
+    String rename(int p) {
         try {
             return String.valueOf(store.rename(p));
         } catch (RuntimeException e) {
@@ -90,6 +104,15 @@ final class Run {
             String all = results();
             due("count of " + path, n, all.isEmpty() ? 0 : all.trim().split(" ").length);
             return all;
+        } catch (RuntimeException e) {
+            return thrown(e);
+        }
+    }
+
+    /** How many nodes the path in the buffer gives. */
+    String query(int p) {
+        try {
+            return String.valueOf(store.query(p));
         } catch (RuntimeException e) {
             return thrown(e);
         }
@@ -146,6 +169,11 @@ final class Run {
             free++;
         }
         return 120 - free;
+    }
+
+    /** All that the face tells, but for the buffer. */
+    String state() {
+        return store.nodes() + ":" + all() + print() + results();
     }
 
     /** Each node: kind, level, size, name, value. */
