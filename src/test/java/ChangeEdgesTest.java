@@ -423,6 +423,8 @@ public final class ChangeEdgesTest {
         Run.due("an element's name", run.rename("a", 2), 1);
         Run.due("a name that is free now", run.rename("x", 3), 1);
         Run.due("an element may take an attribute's name", run.rename("x", 1), 1);
+        Run.due("an element may take the name of its parent's attribute", run.rename("z", 5), 1);
+        Run.due("and its own name again", run.rename("b", 5), 1);
         Run.due("print", run.print(), "<x a=\"1\" x=\"2\" z=\"3\"><b y=\"4\"/><y/></x>");
         run.delete(4);
         Run.due("a name that delete has freed", run.rename("z", 2), 1);

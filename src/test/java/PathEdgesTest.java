@@ -31,6 +31,7 @@ public final class PathEdgesTest {
         longestNames();
         contextNode();
         howMany();
+        oneAfterAnother();
         noNode();
         noPath();
         resultNumbers();
@@ -81,7 +82,7 @@ public final class PathEdgesTest {
 
     private static void relatives() {
         Run.says("relative = step, and any number of: / step, or // step.");
-        taken("a", "a/b", "a//b", "a/b/c/d/e", "a//b//c//d//e", "./".repeat(59) + ".", ".//".repeat(39) + ".", "a/".repeat(59) + "a");
+        taken("a", "a/b", "a//b", "//.".repeat(40), "a/b/c/d/e", "a//b//c//d//e", "./".repeat(59) + ".", ".//".repeat(39) + ".", "a/".repeat(59) + "a");
         refused("a/", "a//", "a///b", "/a/", "//a//", "a/b/", "a/b//", "./", ".//", "./".repeat(60), "a/[1]", "a//[1]", "a/1", "a/'x'");
     }
 
@@ -300,6 +301,30 @@ public final class PathEdgesTest {
         Run run = new Run();
         run.put("//.");
         Run.due("of a new store", run.query(0), 1);
+        for (String path : new String[] { "/", "//.", "self::node()[1]", "self::node()[1=1]", "self::node()[''=.]", "self::node()[.=..]" }) {
+            Run.due("query " + path + " of a new store", new Run().query(path, 0), path.endsWith("..]") ? "" : " 0");
+        }
+    }
+
+    /** What a query gives does not depend on the queries before it. */
+    private static void oneAfterAnother() {
+        String document = "<!--o--><a x='1' y='2'>3<b>4</b><c z='1'/>5</a>";
+        String[] paths = {
+            "/", "//.", "a", "//@*", "//*[1]", "//node()[last()]", "//node()[2][1]", "//*[@x=1]", "//*[not(@*)]", "//@*[.=1]", "//*[count(*)-1]",
+            "//*[1+1=2]", "//*[3-2]", "//*['']", "//*['x'=.]", "//*[7>.+2-1]", "/a/b/following::*[1]", "..", "a[b[.=4]]/c", "//b[/a]", "//text()[.=5]",
+            "preceding::node()[2]", "a[none]", "none", "//*[position()=last()]", "//b[not(c)+not(/)=1]", "//comment()", "a[", "//b[1]]" };
+        for (String first : paths) {
+            for (String second : paths) {
+                Run run = Run.of(document);
+                run.query(first, 8);
+                String due = Run.of(document).query(second, 0);
+                Run.due("query " + second + " behind " + first, run.query(second, 0), due);
+            }
+        }
+        Run run = Run.of(document);
+        for (int i = 0; i < 150; i++) {
+            Run.due("query again", run.query("//*[1][.!=''][count(.)=1]", 0), " 2 6");
+        }
     }
 
     private static void noNode() {

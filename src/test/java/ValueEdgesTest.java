@@ -336,6 +336,12 @@ public final class ValueEdgesTest {
         all(true, "b+0=1", "b[2]+0=2", "c+0=7", "@n+@m=0", "@*+0=5", "count(b)+b=4");
         all(false, "b[3]+0=0", "b[3]+0=b[3]+0", "@e+0=0", "@t+0=0", EMPTY + "+0=0", EMPTY + "+0=" + EMPTY + "+0", ".+0=0");
         all(true, EMPTY + "+0!=0", "not(" + EMPTY + "+1)", "@e+0!=0");
+        Run number = Run.of("<a>12</a>");
+        Run.due("the document as a number", number.query("a[/+0=12]", 0), " 1");
+        Run.due("the document as a number", number.query("a[..-11]", 0), " 1");
+        Run.due("an empty set beside it", number.query("a[none+0=12]", 0), "");
+        Run.due("an empty set beside it", number.query("a[none+0!=12]", 0), " 1");
+        Run.due("an empty set beside it", number.query("a[none-11]", 0), "");
         // The first one in document order, though the axis goes backwards.
         Run run = Run.of("<a><b>1</b><b>2</b><c/></a>");
         Run.due("the first of a backward axis", run.query("//c[preceding::b+0=1]", 0), " 6");
@@ -436,6 +442,8 @@ public final class ValueEdgesTest {
         compares(EMPTY, EMPTY, "0000");
         compares("b", "c", "0110");
         compares(".", "..", "1000");
+        compares("/", "..", "1000");
+        compares("/", "'12x 7\n'", "1000");
     }
 
     private static void othersEqual() {
