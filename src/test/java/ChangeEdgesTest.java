@@ -74,7 +74,8 @@ public final class ChangeEdgesTest {
 
     private static void insertMoreThanOne() {
         for (String text : new String[] {
-            "", "<b/><c/>", "<b/>t", "t<b/>", " <b/>", "<b/> ", "\n<b></b>", "<b></b>\n", "<!--c--><!--d-->", "<!--c-->t", "t<!--c-->", "<!--c--> ",
+            "", "<b/><c/>", "<b/>t", "t<b/>", " <b/>", "<b/> ", "\n<b></b>", "<b></b>\n", "<!--c--><!--d-->", "<!--c-->t", "t<!--c-->",
+            "<!--c--> ",
             " <!--c-->", "<!--c--><b/>", "<b/><!--c-->", "t</a>", "</a>" }) {
             insertFails("<a/>", text, 1, 0, BAD);
             insertFails("<a>u<c/></a>", text, 3, 3, BAD);
@@ -195,7 +196,8 @@ public final class ChangeEdgesTest {
 
     private static void insertThrowsWhatLoadThrows() {
         for (String text : new String[] {
-            "<", "<b", "<b/", "<b>", "<b></", "<b></b", "<b></c>", "<b x>", "<b x='1' x='2'/>", "<b x='<'/>", "<1/>", "< b/>", "&", "t&", "&x;", "t<",
+            "<", "<b", "<b/", "<b>", "<b></", "<b></b", "<b></c>", "<b x>", "<b x='1' x='2'/>", "<b x='<'/>", "<1/>", "< b/>", "&", "t&",
+            "&x;", "t<",
             "<!", "<!-", "<!--", "<!--c", "<!--c--", "<!--c--d-->", "<!--c--->", "<!x" }) {
             insertFails("<a>t</a>", text, 2, 3, BAD);
         }
@@ -401,7 +403,8 @@ public final class ChangeEdgesTest {
 
     private static void renameNoName() {
         for (String name : new String[] {
-            "", " ", "1", "-", "_", "1n", "-n", "_n", " n", "n ", "\nn", "n\n", "n.", "n:m", "n/", "<n", "n>", "n=", "n'", "@n", "*", "n".repeat(119) + "+" }) {
+            "", " ", "1", "-", "_", "1n", "-n", "_n", " n", "n ", "\nn", "n\n", "n.", "n:m", "n/", "<n", "n>", "n=", "n'", "@n", "*",
+            "n".repeat(119) + "+" }) {
             Run run = Run.of("<a x='1'/>");
             Run.due("rename of an element to " + name, run.rename(name, 1), BAD);
             Run.due("rename of an attribute to " + name, run.rename(name, 2), BAD);

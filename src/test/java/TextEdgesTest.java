@@ -166,7 +166,8 @@ public final class TextEdgesTest {
 
     private static void comments() {
         Run.says("comment = <!-- any number of characters among which there is no -- and of which - is not the last, -->.");
-        for (String inside : new String[] { "", "c", "-c", "->", "c-d", "-c-d", " ", "\n", "<", ">", "&", "<b>", "&lt;", "<?", "'\"", "- - c", "!" }) {
+        for (String inside : new String[] { "", "c", "-c", "->", "c-d", "-c-d", " ", "\n", "<", ">", "&", "<b>", "&lt;", "<?", "'\"",
+            "- - c", "!" }) {
             prints("<!--" + inside + "--><a/>", "<!--" + inside + "--><a/>");
             prints("<a><!--" + inside + "--></a>", "<a><!--" + inside + "--></a>");
             prints("<a/><!--" + inside + "-->", "<a/><!--" + inside + "-->");
@@ -192,8 +193,10 @@ public final class TextEdgesTest {
         Run.due("value of what is not read twice", Run.of("<a>&amp;lt;&amp;amp;</a>").value(2), "&lt;&amp;");
         Run.due("value beside others", Run.of("<a>x&lt;;y</a>").value(2), "x<;y");
         for (String wrong : new String[] {
-            "&", "&;", "& ", "&&", "&x;", "&l", "&lt", "&lt ", "&LT;", "&Lt;", "& lt;", "&l t;", "&lt&lt;", "&gt", "&am;", "&ampx;", "&quo;",
-            "&apo;", "&aquot;", "&quotapos;", "&#60;", "&#x3c;", "&nbsp;", "<", "&<" }) {
+            "&", "&;", "& ", "&&", "&x;", "&l", "&lt", "&lt ", "&LT;", "&Lt;", "& lt;", "&l t;", "&lt&lt;", "&gt", "&am;", "&ampx;",
+            "&quo;",
+            "&apo;", "&ltx", "&gtx", "&ampx", "&quotx", "&aposx", "&lt:", "&gt:", "&amp:", "&quot:", "&apos:", "&aquot;", "&quotapos;",
+            "&#60;", "&#x3c;", "&nbsp;", "<", "&<" }) {
             refused(BAD, "<a>" + wrong + "</a>", "<a>x" + wrong + "y</a>", "<a x='" + wrong + "'/>", "<a>" + wrong);
         }
     }
@@ -276,8 +279,10 @@ public final class TextEdgesTest {
     private static void firstThing() {
         Run.says("The first thing that goes wrong from left to right tells what is thrown");
         refused(OTHER, "<?<a", "<a><?</b>", DEEP + "<?<i/>", FULL + "<?x", "<a><!D&", "<a/><?t", "<!--c--><![<a/>");
-        refused(STATE, DEEP + "<i><?", DEEP + "<i$", DEEP + "<i x=1", FULL + "x<?", FULL + "x&", FULL + "<c<?", FULL + "<!--c--><?", FULL + "x</b>");
-        refused(BAD, "t<?", "</<?", "<a></b><?", "<a>&<?", "<a x=<?", "<a/>t<?", DEEP + "</i><i/>", DEEP + "&;<i/>", FULL + "</b>x", FULL + "<$x",
+        refused(STATE, DEEP + "<i><?", DEEP + "<i$", DEEP + "<i x=1", FULL + "x<?", FULL + "x&", FULL + "<c<?", FULL + "<!--c--><?",
+            FULL + "x</b>");
+        refused(BAD, "t<?", "</<?", "<a></b><?", "<a>&<?", "<a x=<?", "<a/>t<?", DEEP + "</i><i/>", DEEP + "&;<i/>", FULL + "</b>x",
+            FULL + "<$x",
             FULL + "</a>t<!--c-->", FULL + "</a></a><!--c-->", NEARLY_FULL + "<b y='&'", NEARLY_FULL + "<b y='<'");
     }
 
@@ -294,7 +299,8 @@ public final class TextEdgesTest {
 
     private static void unsupportedElsewhere() {
         for (String mark : new String[] { "<?", "<!D", "<![" }) {
-            refused(BAD, "t" + mark, "<a/>t" + mark, "<" + mark, "<a" + mark, "<a " + mark, "<a x" + mark, "<a x=" + mark, "<a x='" + mark + "'/>",
+            refused(BAD, "t" + mark, "<a/>t" + mark, "<" + mark, "<a" + mark, "<a " + mark, "<a x" + mark, "<a x=" + mark,
+                "<a x='" + mark + "'/>",
                 "<a x=''" + mark, "<a/" + mark, "<a></" + mark, "<a></a" + mark, "<a>&" + mark, "<!-" + mark, "<!--c--" + mark);
             prints("<!--" + mark + "--><a/>", "<!--" + mark + "--><a/>");
         }
@@ -338,7 +344,8 @@ public final class TextEdgesTest {
         wrongWith(FULL + "<!---->", STATE);
         wrongWith(FULL + "<!--c-->", STATE);
         wrongWith(FULL + "</a><!--c-->", STATE);
-        refused(BAD, FULL + "<!", FULL + "<!-", FULL + "<!--", FULL + "<!--c", FULL + "<!--c-", FULL + "<!--c--", FULL + "<!--c--x", FULL + "<!--c---",
+        refused(BAD, FULL + "<!", FULL + "<!-", FULL + "<!--", FULL + "<!--c", FULL + "<!--c-", FULL + "<!--c--", FULL + "<!--c--x",
+            FULL + "<!--c---",
             FULL + "<!x", FULL + "</a><!--c--x");
     }
 
@@ -356,7 +363,8 @@ public final class TextEdgesTest {
     }
 
     private static void stringValues() {
-        Run.says("STRING-VALUES: of a text, comment, attribute: its characters; of an element or the document: those of all texts in it, in order.");
+        Run.says("STRING-VALUES: of a text, comment, attribute: its characters; "
+            + "of an element or the document: those of all texts in it, in order.");
         Run run = Run.of("<!--o--><a x='v' y=''>1<b z='w'>2<c>3</c><!--c-->4</b><d/>5</a>");
         String[] values = { "12345", "o", "12345", "v", "", "1", "234", "w", "2", "3", "3", "c", "4", "", "5" };
         for (int p = 0; p < values.length; p++) {

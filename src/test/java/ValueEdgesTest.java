@@ -136,7 +136,8 @@ public final class ValueEdgesTest {
 
     private static void following() {
         Run.says("following: all nodes behind it in document order but attributes and what is below it");
-        String[] due = { "", " 2 5 6 7 9 10 11 12", " 12", " 5 6 7 9 10 11 12", " 5 6 7 9 10 11 12", " 10 11 12", " 7 9 10 11 12", " 10 11 12",
+        String[] due = { "", " 2 5 6 7 9 10 11 12", " 12", " 5 6 7 9 10 11 12", " 5 6 7 9 10 11 12", " 10 11 12", " 7 9 10 11 12",
+            " 10 11 12",
             " 9 10 11 12", " 10 11 12", " 11 12", " 12", "" };
         for (int p = 0; p < COUNT; p++) {
             gives("following::node()", p, due[p]);
@@ -145,7 +146,8 @@ public final class ValueEdgesTest {
 
     private static void preceding() {
         Run.says("preceding: all before it but attributes and its ancestors");
-        String[] due = { "", "", " 1", " 1", " 1", " 1", " 1", " 1 6", " 1 6", " 1 6", " 1 5 6 7 9", " 1 5 6 7 9 10", " 1 2 5 6 7 9 10 11" };
+        String[] due = { "", "", " 1", " 1", " 1", " 1", " 1", " 1 6", " 1 6", " 1 6", " 1 5 6 7 9", " 1 5 6 7 9 10",
+            " 1 2 5 6 7 9 10 11" };
         for (int p = 0; p < COUNT; p++) {
             gives("preceding::node()", p, due[p]);
         }
@@ -214,7 +216,8 @@ public final class ValueEdgesTest {
 
     private static void positionForward() {
         Run.says("with its POSITION (from 1, in document order");
-        for (String axis : new String[] { "child", "descendant", "attribute", "descendant-or-self", "following-sibling", "following", "self" }) {
+        for (String axis : new String[] { "child", "descendant", "attribute", "descendant-or-self", "following-sibling", "following",
+            "self" }) {
             for (int p = 0; p < COUNT; p++) {
                 positions(axis, p, false);
             }
@@ -301,7 +304,8 @@ public final class ValueEdgesTest {
     private static void textsAsNumbers() {
         Run.says("AS A NUMBER: a text of blanks, a - or none, 1 .. 9 digits, blanks is that number");
         String[][] numbers = {
-            { "0", "0" }, { "5", "5" }, { "05", "5" }, { "-5", "0-5" }, { "-0", "0" }, { " 5", "5" }, { "5 ", "5" }, { " 5 ", "5" }, { "\n5\n", "5" },
+            { "0", "0" }, { "5", "5" }, { "05", "5" }, { "-5", "0-5" }, { "-0", "0" }, { " 5", "5" }, { "5 ", "5" }, { " 5 ", "5" },
+            { "\n5\n", "5" },
             { " \n -5 \n ", "0-5" }, { "123456", "123456" }, { "000000000", "0" }, { "000000001", "1" }, { "-000000001", "0-1" },
             { "999999999", "999999999" }, { "-999999999", "-999999999" }, { "100000000", "100000000" } };
         for (String[] number : numbers) {
@@ -316,8 +320,10 @@ public final class ValueEdgesTest {
     private static void textsThatAreNone() {
         Run.says("another text is NONE");
         for (String none : new String[] {
-            "", " ", "\n", "-", " - ", "--5", "- 5", "-\n5", "+5", "5-", "5-5", "5 5", "1 000", "5.0", "5.", ".5", "5x", "x5", "x", "0x5", "1e3", "1,000",
-            "1000000000", "0000000000", "0000000001", "-1000000000", "9999999999", " 1234567890 ", "12345678901234567890", "-0000000005" }) {
+            "", " ", "\n", "-", " - ", "--5", "- 5", "-\n5", "+5", "5-", "5-5", "5 5", "1 000", "5.0", "5.", ".5", "5x", "x5", "x", "0x5",
+            "1e3", "1,000",
+            "1000000000", "0000000000", "0000000001", "-1000000000", "9999999999", " 1234567890 ", "12345678901234567890",
+            "-0000000005" }) {
             isTrue("'" + none + "'+0='" + none + "'+0", false);
             isTrue("'" + none + "'+0!='" + none + "'+0", true);
             isTrue("not('" + none + "'+1)", true);
@@ -350,11 +356,13 @@ public final class ValueEdgesTest {
 
     private static void truth() {
         Run.says("TRUE is a number other than 0 and NONE, a text with characters, a set with nodes.");
-        for (String yes : new String[] { "1", "2", "999999", "0-1", "'0'", "' '", "'x'", "'\n'", "b", ".", "@e", "/", TRUE, "1=1", "b[3]", "count(b)", "last()" }) {
+        for (String yes : new String[] { "1", "2", "999999", "0-1", "'0'", "' '", "'x'", "'\n'", "b", ".", "@e", "/", TRUE, "1=1", "b[3]",
+            "count(b)", "last()" }) {
             isTrue("not(" + yes + ")", false);
             isTrue("not(not(" + yes + "))", true);
         }
-        for (String no : new String[] { "0", "000000", "1-1", NONE, EMPTY + "+1", "''", EMPTY, "b[4]", FALSE, "1=2", "count(" + EMPTY + ")", "last()-1" }) {
+        for (String no : new String[] { "0", "000000", "1-1", NONE, EMPTY + "+1", "''", EMPTY, "b[4]", FALSE, "1=2",
+            "count(" + EMPTY + ")", "last()-1" }) {
             isTrue("not(" + no + ")", true);
             isTrue("not(not(" + no + "))", false);
         }
@@ -362,11 +370,13 @@ public final class ValueEdgesTest {
 
     private static void sums() {
         Run.says("+ and - are of numbers, NONE if one is NONE");
-        all(true, "1+2=3", "1-2=0-1", "9-3-2=4", "9-3+2=8", "1+2-3+4=4", "999999+999999='1999998'", "0-999999-999999='-1999998'", "'2'+'3'=5", "b[2]-b=1");
+        all(true, "1+2=3", "1-2=0-1", "9-3-2=4", "9-3+2=8", "1+2-3+4=4", "999999+999999='1999998'", "0-999999-999999='-1999998'",
+            "'2'+'3'=5", "b[2]-b=1");
         String nines = "'999999999'";
         isTrue(nines + "+" + nines + "+" + nines + "+" + nines + "-" + nines + "-" + nines + "-" + nines + "=" + nines, true);
         isTrue("0-" + nines + "-" + nines + "-" + nines + "-" + nines + "<0-" + nines + "-" + nines + "-" + nines, true);
-        for (String none : new String[] { "'n'+1", "1+'n'", "1-'n'", "'n'-'n'", "1+2-'n'+3", EMPTY + "+1", "1-" + EMPTY, "''+''", "b[3]-b[3]" }) {
+        for (String none : new String[] { "'n'+1", "1+'n'", "1-'n'", "'n'-'n'", "1+2-'n'+3", EMPTY + "+1", "1-" + EMPTY, "''+''",
+            "b[3]-b[3]" }) {
             compares(none, "1", "0100");
             isTrue("not(" + none + ")", true);
         }
@@ -374,7 +384,8 @@ public final class ValueEdgesTest {
 
     private static void counts() {
         Run.says("count is how many nodes, not the opposite of TRUE.");
-        all(true, "count(" + EMPTY + ")=0", "count(.)=1", "count(b)=3", "count(b[4])=0", "count(//b)=3", "count(@*)=4", "count(b/..)=1", "count(/)=1",
+        all(true, "count(" + EMPTY + ")=0", "count(.)=1", "count(b)=3", "count(b[4])=0", "count(//b)=3", "count(@*)=4", "count(b/..)=1",
+            "count(/)=1",
             "count(//node())=9", "count(//.)=10");
         Run run = Run.of("<a>" + "<b/>".repeat(28) + "</a>");
         Run.due("count of all thirty", run.query("a[count(//.)=30]", 0), " 1");
@@ -405,7 +416,8 @@ public final class ValueEdgesTest {
     }
 
     private static void setsAndOthers() {
-        Run.says("Else if one is a set (or both): true when some node of it (of both) makes the comparison true, its string-value (both) standing as a text.");
+        Run.says("Else if one is a set (or both): true when some node of it (of both) makes the comparison true, "
+            + "its string-value (both) standing as a text.");
         compares("b", "1", "1101");
         compares("b", "2", "1110");
         compares("b", "0", "0101");
@@ -448,9 +460,12 @@ public final class ValueEdgesTest {
 
     private static void othersEqual() {
         Run.says("Of others: = and !=: as booleans if one is a boolean, else as numbers if one is a number, else as texts");
-        all(true, "not(0)=7", "not(0)='n'", "not(0)='0'", "not(1)=0", "not(1)=''", "not(1)=" + NONE, "not(0)!=0", "not(0)!=''", "not(0)!=" + NONE,
-            "not(0)=not(0)", "not(0)!=not(1)", "5='5'", "5=' 05 '", "'5'=5", "5!='6'", "5!='n'", "'n'='n'", "''=''", "'n'!='N'", "'5'!='05'", "'5'!=' 5'", "'n'!=''");
-        all(false, "not(0)=0", "not(0)=''", "not(1)=7", "not(1)='n'", "not(0)!=7", "not(0)!='n'", "not(1)!=''", "5='6'", "5='n'", "5!='5'", "'n'='N'",
+        all(true, "not(0)=7", "not(0)='n'", "not(0)='0'", "not(1)=0", "not(1)=''", "not(1)=" + NONE, "not(0)!=0", "not(0)!=''",
+            "not(0)!=" + NONE,
+            "not(0)=not(0)", "not(0)!=not(1)", "5='5'", "5=' 05 '", "'5'=5", "5!='6'", "5!='n'", "'n'='n'", "''=''", "'n'!='N'",
+            "'5'!='05'", "'5'!=' 5'", "'n'!=''");
+        all(false, "not(0)=0", "not(0)=''", "not(1)=7", "not(1)='n'", "not(0)!=7", "not(0)!='n'", "not(1)!=''", "5='6'", "5='n'",
+            "5!='5'", "'n'='N'",
             "'5'='05'", "'n'!='n'", "''!=''", "'nn'='n'", "'n'='nn'");
     }
 
