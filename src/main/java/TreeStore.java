@@ -297,7 +297,7 @@ public final class TreeStore {
         }
 
         void put(int place, Row from, int first, int n) {
-            if (!hasRoomFor(n) || place > length || first + n > from.length) {
+            if (n < 0 || !hasRoomFor(n) || place < 0 || place > length || first < 0 || first + n > from.length) {
                 return;
             }
             System.arraycopy(chars, place, chars, place + n, length - place);
@@ -306,7 +306,7 @@ public final class TreeStore {
         }
 
         void cut(int place, int n) {
-            if (place + n > length) {
+            if (n < 0 || place < 0 || place + n > length) {
                 return;
             }
             System.arraycopy(chars, place + n, chars, place, length - place - n);
@@ -321,8 +321,11 @@ public final class TreeStore {
             if (other == this && otherFirst == first) {
                 return true;
             }
+            if (first < 0 || first + n > length || otherFirst < 0 || otherFirst + n > other.length) {
+                return false;
+            }
             for (int i = 0; i < n; i++) {
-                if (at(first + i) != other.at(otherFirst + i)) {
+                if (chars[first + i] != other.chars[otherFirst + i]) {
                     return false;
                 }
             }
@@ -350,20 +353,21 @@ public final class TreeStore {
             if (!isLetter(at(first))) {
                 return 0;
             }
-            int behind = first + 1;
-            while (behind < length && isInName(chars[behind])) {
-                behind++;
+            for (int behind = first + 1; behind < length; behind++) {
+                char c = chars[behind];
+                if (!isLetter(c) && !isDigit(c) && c != '-' && c != '_') {
+                    return behind - first;
+                }
             }
-            return behind - first;
-        }
-
-        private static boolean isInName(int c) {
-            return isLetter(c) || isDigit(c) || c == '-' || c == '_';
+            return length - first;
         }
 
         int behindBlanks(int first, int end) {
+            if (first < 0 || end > length) {
+                return first;
+            }
             int behind = first;
-            while (behind < end && (at(behind) == ' ' || at(behind) == '\n')) {
+            while (behind < end && (chars[behind] == ' ' || chars[behind] == '\n')) {
                 behind++;
             }
             return behind;
